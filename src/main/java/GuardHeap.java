@@ -11,6 +11,7 @@ public final class GuardHeap {
     private static final int UNIT = 4;
     private static final int LARGEST_SMALL = 64;
     private static final int MOST_WORDS = 3000;
+    private static final int FAULTS_KEPT = 32;
 
     private static final int OWN = 0;
     private static final int LATE = 1;
@@ -645,30 +646,28 @@ public final class GuardHeap {
 
     /** The latest FAULTS in a ring, and how many there were in all. */
     private static final class Faults {
-        static final int KEPT = 32;
-
         final int[] kinds;
         final int[] addresses;
         int total;
 
         Faults() {
-            kinds = new int[KEPT];
-            addresses = new int[KEPT];
+            kinds = new int[FAULTS_KEPT];
+            addresses = new int[FAULTS_KEPT];
         }
 
         void keep(int kind, int a) {
-            int slot = Math.floorMod(total, KEPT);
+            int slot = Math.floorMod(total, FAULTS_KEPT);
             kinds[slot] = kind;
             addresses[slot] = a;
             total++;
         }
 
         boolean has(int k) {
-            return k >= 0 && k < KEPT && k < total;
+            return k >= 0 && k < FAULTS_KEPT && k < total;
         }
 
         int slotOf(int k) {
-            return Math.floorMod(total - 1 - k, KEPT);
+            return Math.floorMod(total - 1 - k, FAULTS_KEPT);
         }
 
         int kindOf(int k) {

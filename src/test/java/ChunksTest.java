@@ -46,7 +46,11 @@ public final class ChunksTest {
         GuardHeap x = chunksOf(8, 8, 8, 4);
         free(x, 10, 2, 18);
         chain(x, 8, 17, 1, 9);
+        DUE.is("FREE CHUNKS", x.count(5), 3);
+        DUE.is("FREE words", x.count(6), 24);
         DUE.is("alloc(5)", x.alloc(5), 18);
+        DUE.is("FREE CHUNKS", x.count(5), 2);
+        DUE.is("FREE words", x.count(6), 16);
         chain(x, 8, 1, 9);
         DUE.is("alloc(6)", x.alloc(6), 2);
         DUE.is("alloc(3)", x.alloc(3), 10);

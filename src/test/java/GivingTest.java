@@ -15,6 +15,7 @@ public final class GivingTest {
         freeOfWrongAddresses();
         freeBeyondCap();
         resizeMovesWords();
+        resizeLeavesTheZoneBehind();
         resizeKeepsOldUntilTheNewIsGiven();
         resizeInVain();
         resizeWrong();
@@ -207,6 +208,24 @@ public final class GivingTest {
         DUE.is("GIVEN", x.count(7), 4);
         DUE.is("FREED", x.count(8), 3);
         DUE.is("their words", x.count(2), 2);
+    }
+
+    private static void resizeLeavesTheZoneBehind() {
+        GuardHeap x = new GuardHeap(100, 1, 0);
+        x.alloc(6);
+        for (int a = 2; a < 8; a++) {
+            x.store(a, 9);
+        }
+        x.free(2);
+        DUE.is("alloc(3) in the same chunk", x.alloc(3), 2);
+        x.store(4, 7);
+        DUE.is("resize(2, 6)", x.resize(2, 6), 10);
+        int[] due = {0, 0, 7, 0, 0, 0};
+        for (int i = 0; i < 6; i++) {
+            DUE.is("word " + i, x.load(10 + i), due[i]);
+        }
+        DUE.is("resize(10, 1)", x.resize(10, 1), 2);
+        DUE.is("sizeOf(2)", x.sizeOf(2), 1);
     }
 
     private static void resizeKeepsOldUntilTheNewIsGiven() {

@@ -11,6 +11,7 @@ public final class LeaksTest {
         whatIsKeptStays();
         wrongLeaks();
         pointersOfWordsAndRoots();
+        wordsOfTheZoneDoNotLead();
         aLongChain();
         DUE.end();
     }
@@ -170,6 +171,23 @@ public final class LeaksTest {
         x.setRoot(15, 10);
         DUE.is("pointers()", x.pointers(), 6);
         DUE.is("leakScan()", x.leakScan(), 1);
+    }
+
+    /** What an earlier block left in the words that are now the zone's leads nowhere. */
+    private static void wordsOfTheZoneDoNotLead() {
+        GuardHeap x = new GuardHeap(200, 1, 0);
+        x.alloc(6);
+        x.alloc(2);
+        x.store(7, 10);
+        x.free(2);
+        DUE.is("alloc(5) in the same chunk", x.alloc(5), 2);
+        DUE.is("zone: pointers()", x.pointers(), 0);
+        DUE.is("zone: leakScan()", x.leakScan(), 2);
+        DUE.is("zone: leak(1, 3)", x.leak(1, 3), 1);
+        x.setRoot(0, 2);
+        DUE.is("zone, reached: leakScan()", x.leakScan(), 1);
+        DUE.is("zone, reached: leak(0, 0)", x.leak(0, 0), 10);
+        DUE.is("zone, reached: pointers()", x.pointers(), 1);
     }
 
     private static void aLongChain() {
