@@ -15,6 +15,7 @@ public final class Promise12LeakScanTest {
         ledByAWaitingBlock();
         waitingBlocksAreNotLost();
         ledByLeftWords();
+        allLeadOnAndBack();
         aLaterOneForgetsTheEarlier();
         changesNothingElse();
         DUE.end();
@@ -167,15 +168,29 @@ public final class Promise12LeakScanTest {
 
     private static void ledByLeftWords() {
         DUE.sentence("A BLOCK is REACHED if a ROOT, or a word of a BLOCK that is REACHED, LEADS to it.");
-        GuardHeap x = new GuardHeap(100, 1, 0);
-        x.alloc(6);
-        x.alloc(2);
-        x.store(7, 10);
-        x.free(2);
-        DUE.is("alloc(5)", x.alloc(5), 2);
-        x.setRoot(0, 2);
-        DUE.is("word 7 is of the ZONE: leakScan()", x.leakScan(), 1);
-        DUE.is("leak(0, 0)", x.leak(0, 0), 10);
+        GuardHeap x = Scene.leftInZones();
+        x.setRoot(0, 6);
+        DUE.is("words of its ZONE do not lead: leakScan()", x.leakScan(), 2);
+        DUE.is("leak(1, 0)", x.leak(1, 0), 14);
+        x.setRoot(1, 2);
+        DUE.is("nor do those of the other's: leakScan()", x.leakScan(), 1);
+        DUE.is("leak(0, 0)", x.leak(0, 0), 14);
+    }
+
+    private static void allLeadOnAndBack() {
+        DUE.sentence("A BLOCK is REACHED if a ROOT, or a word of a BLOCK that is REACHED, LEADS to it.");
+        GuardHeap x = new GuardHeap(64, 1, 0);
+        for (int i = 0; i < 15; i++) {
+            x.alloc(2);
+            x.store(2 + 4 * i, 2);
+            x.store(3 + 4 * i, 6 + 4 * i);
+        }
+        DUE.is("the heap is full", x.alloc(1), 0);
+        DUE.is("no ROOT: leakScan()", x.leakScan(), 15);
+        for (int i = 0; i < 15; i++) {
+            x.setRoot(0, 2 + 4 * i);
+            DUE.is("ROOT 0 is " + (2 + 4 * i) + ": leakScan()", x.leakScan(), 0);
+        }
     }
 
     private static void aLaterOneForgetsTheEarlier() {

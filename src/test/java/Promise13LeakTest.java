@@ -15,6 +15,8 @@ public final class Promise13LeakTest {
         twoThatLeadToEachOther();
         ledByAReachedBlock();
         ledByAWaitingBlock();
+        ledByAnEarlierLostBlock();
+        ledByLeftWords();
         ledByEveryWord();
         changesNothing();
         DUE.end();
@@ -174,6 +176,23 @@ public final class Promise13LeakTest {
         heads(x, 1, 0);
         x.free(2);
         heads(x, 1);
+    }
+
+    private static void ledByAnEarlierLostBlock() {
+        DUE.sentence("HEADS of these those to which no word of another LOST BLOCK LEADS");
+        GuardHeap x = pairs(3);
+        x.store(6, 2);
+        x.store(10, 2);
+        heads(x, 0, 1, 1);
+        x.free(6);
+        x.free(10);
+        heads(x, 1);
+        DUE.is("leak(0, 0)", x.leak(0, 0), 2);
+    }
+
+    private static void ledByLeftWords() {
+        DUE.sentence("HEADS of these those to which no word of another LOST BLOCK LEADS");
+        heads(Scene.leftInZones(), 1, 1, 1);
     }
 
     private static void ledByEveryWord() {

@@ -102,16 +102,12 @@ public final class Promise14PointersTest {
 
     private static void leftWordsDoNotCount() {
         DUE.sentence("How many of all words in LIVE BLOCKS are numbers that LEAD to a LIVE BLOCK, and ROOTS that do.");
-        GuardHeap x = new GuardHeap(100, 1, 0);
-        x.alloc(6);
-        x.alloc(2);
-        for (int a = 2; a <= 7; a++) {
-            x.store(a, 10);
-        }
-        x.free(2);
+        GuardHeap x = Scene.leftInZones();
+        DUE.is("words of ZONES", x.pointers(), 0);
+        x.store(10, 14);
+        DUE.is("a word of the BLOCK", x.pointers(), 1);
+        x.free(6);
         DUE.is("FREE words", x.pointers(), 0);
-        DUE.is("alloc(5)", x.alloc(5), 2);
-        DUE.is("words of a ZONE", x.pointers(), 0);
     }
 
     private static void lostOrNot() {

@@ -34,6 +34,23 @@ final class Scene {
         return x;
     }
 
+    /**
+     * LIVE: 2 words at 2, 5 at 6, 2 at 14, all 0. An earlier block has left 14 in the words that lie
+     * on both sides of the 5 words now: 4, 5 and 11, which are of ZONES.
+     */
+    static GuardHeap leftInZones() {
+        GuardHeap x = new GuardHeap(100, 1, 0);
+        x.alloc(10);
+        x.alloc(2);
+        for (int a = 2; a <= 11; a++) {
+            x.store(a, 14);
+        }
+        x.free(2);
+        x.alloc(2);
+        x.alloc(5);
+        return x;
+    }
+
     static void unchanged(Due due, String call, Consumer<GuardHeap> calls) {
         unchanged(due, call, Scene::busy, calls);
     }
