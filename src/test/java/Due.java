@@ -5,7 +5,7 @@ final class Due {
     /** Some numbers that no call has a use for. */
     static final int[] FAR = {Integer.MIN_VALUE, Integer.MIN_VALUE + 1, -3001, Integer.MAX_VALUE - 1, Integer.MAX_VALUE};
 
-    private static final long LONGEST_MILLIS = 600_000;
+    private static final long LONGEST_MILLIS = 300_000;
 
     interface Call {
         int answer();

@@ -13,6 +13,7 @@ public final class Promise12LeakScanTest {
         ledByEveryWord();
         ledToByTheZone();
         ledByAWaitingBlock();
+        ledByAWaitingBlockAtFirst();
         waitingBlocksAreNotLost();
         ledByLeftWords();
         allLeadOnAndBack();
@@ -152,6 +153,20 @@ public final class Promise12LeakScanTest {
         DUE.is("leak(0, 0)", x.leak(0, 0), 10);
         x.free(2);
         DUE.is("the first one too: leakScan()", x.leakScan(), 1);
+    }
+
+    private static void ledByAWaitingBlockAtFirst() {
+        DUE.sentence("A number LEADS to a LIVE BLOCK if it is the address of a word of it.");
+        GuardHeap x = pairs(4);
+        x.store(2, 6);
+        x.store(6, 10);
+        x.store(14, 10);
+        x.setRoot(0, 2);
+        x.setRoot(1, 14);
+        x.free(6);
+        x.free(14);
+        DUE.is("by a word and by a ROOT: leakScan()", x.leakScan(), 1);
+        DUE.is("leak(0, 0)", x.leak(0, 0), 10);
     }
 
     private static void waitingBlocksAreNotLost() {
